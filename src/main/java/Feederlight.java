@@ -23,9 +23,9 @@ public final class Feederlight {
     private static final int NO_TIE = -1;
     private static final int NO_SET = -1;
 
-    private final Grid grid;
-    private final Feeding feeding;
     private final Flows flows;
+    private final Feeding feeding;
+    private final Grid grid;
     private final Chargers chargers;
     private final Roof[] roofs;
     private final int[] loads;
@@ -36,9 +36,9 @@ public final class Feederlight {
     private long chargedSum;
 
     public Feederlight() {
-        grid = new Grid();
-        feeding = new Feeding(grid);
-        flows = new Flows(grid, feeding);
+        flows = new Flows();
+        feeding = flows.feeding;
+        grid = feeding.grid;
         chargers = new Chargers();
         roofs = new Roof[MOST_NODES];
         for (int node = 0; node < MOST_NODES; node++) {
@@ -499,7 +499,7 @@ public final class Feederlight {
         return resistance * flow / 10;
     }
 
-    /** What stands in the street: nodes with their cables and fuses, and ties. Cable and fuse bear their node's number. */
+    /** What stands in the street: nodes, cables, fuses and ties. A cable and its fuse bear the number of their node. */
     private static final class Grid {
         private final int[] parents = new int[MOST_NODES];
         private final int[] resistances = new int[MOST_NODES];
@@ -549,7 +549,7 @@ public final class Feederlight {
      * index at any time; a node fed over a tie has the cable 0, which no node has.
      */
     private static final class Feeding {
-        private final Grid grid;
+        private final Grid grid = new Grid();
         private final boolean[] fed = new boolean[MOST_NODES];
         private final int[] feeders = new int[MOST_NODES];
         private final int[] cables = new int[MOST_NODES];
@@ -558,8 +558,7 @@ public final class Feederlight {
         private final boolean[] closed = new boolean[MOST_TIES];
         private int fedCount = 1;
 
-        private Feeding(Grid grid) {
-            this.grid = grid;
+        private Feeding() {
             fed[0] = true;
         }
 
@@ -590,7 +589,7 @@ public final class Feederlight {
             fedCount = 1;
         }
 
-        /** Goes on from the nodes that have been fed since a place in the order; those before it have spread already. */
+        /** Goes on from the nodes that have a place in the order from this one on; those before it have spread. */
         private void spreadOverCables(int from) {
             for (int place = from; place < grid.nodeCount && place < fedCount; place++) {
                 spreadFrom(order[place]);
@@ -667,15 +666,9 @@ public final class Feederlight {
 
     /** The flows and voltages of the nodes that are fed, found for the whole net at once. */
     private static final class Flows {
-        private final Grid grid;
-        private final Feeding feeding;
+        private final Feeding feeding = new Feeding();
         private final int[] amperes = new int[MOST_NODES];
         private final int[] voltages = new int[MOST_NODES];
-
-        private Flows(Grid grid, Feeding feeding) {
-            this.grid = grid;
-            this.feeding = feeding;
-        }
 
         private void workOut(int[] ownCurrents, int[] charges, int served, int base) {
             for (int node = 0; node < MOST_NODES; node++) {
@@ -700,7 +693,7 @@ public final class Feederlight {
             for (int place = 0; place < feeding.fedCount; place++) {
                 int node = feeding.order[place];
                 int cable = feeding.cables[node];
-                if (voltages[node] < LEAST_VOLTAGE || cable > 0 && carriedTo(node) > grid.ratings[cable]) {
+                if (voltages[node] < LEAST_VOLTAGE || cable > 0 && carriedTo(node) > feeding.grid.ratings[cable]) {
                     return false;
                 }
             }
@@ -747,7 +740,7 @@ public final class Feederlight {
         }
     }
 
-    /** A roof's curve: the number of layer 0 is the amperes at full sun, that of each other one its cap or its shade. */
+    /** A roof's curve: the number of layer 0 is the amperes at full sun, that of another one its cap or its shade. */
     private static final class Roof {
         private final boolean[] shades = new boolean[MOST_LAYERS];
         private final int[] numbers = new int[MOST_LAYERS];

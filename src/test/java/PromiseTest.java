@@ -699,6 +699,9 @@ public final class PromiseTest {
     private static void promise22() {
         Feederlight net = star(3);
         Check.due("lowest(), all the same", net.lowest(), 0);
+        net.setLoad(1, 1);
+        Check.due("lowest()", net.lowest(), 1);
+        net.setLoad(1, 0);
         net.setLoad(3, 10);
         Check.due("lowest()", net.lowest(), 3);
         net.setLoad(2, 10);
@@ -949,6 +952,8 @@ public final class PromiseTest {
         Check.due("most, 8 in all", most(net, fromLarger), 1);
         net.setBase(2076);
         Check.due("most, 3 in all", most(net, fromLarger), 0);
+        net.setCharger(2, 1);
+        Check.due("most, with a charger of 1", most(net, fromLarger), 1);
     }
 
     private static void promise29() {
