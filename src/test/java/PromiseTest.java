@@ -1,14 +1,7 @@
-import java.util.NoSuchElementException;
 import java.util.function.Supplier;
 
 /** For each promise of the document: ordinary inputs, the edges that it names, and wrong inputs. */
 public final class PromiseTest {
-    private static final Class<IndexOutOfBoundsException> INDEX = IndexOutOfBoundsException.class;
-    private static final Class<IllegalArgumentException> ARGUMENT = IllegalArgumentException.class;
-    private static final Class<IllegalStateException> STATE = IllegalStateException.class;
-    private static final Class<NoSuchElementException> NONE = NoSuchElementException.class;
-    private static final Class<ArithmeticException> ARITHMETIC = ArithmeticException.class;
-
     public static void main(String[] args) {
         Check.part("promise 1", PromiseTest::promise1);
         Check.part("promise 2", PromiseTest::promise2);
@@ -54,39 +47,13 @@ public final class PromiseTest {
         Check.end();
     }
 
-    /** Nodes in one line behind the transformer, each cable of 10 with a rating of 100. */
-    private static Feederlight line(int nodes) {
-        Feederlight net = new Feederlight();
-        for (int node = 1; node <= nodes; node++) {
-            net.addNode(node - 1, 10, 100);
-        }
-        return net;
-    }
-
-    /** Nodes right behind the transformer, each cable of 10 with a rating of 100. */
-    private static Feederlight star(int nodes) {
-        Feederlight net = new Feederlight();
-        for (int node = 1; node <= nodes; node++) {
-            net.addNode(0, 10, 100);
-        }
-        return net;
-    }
-
-    /** Blows the fuse of a node with a rating of 100 by its own load; the load is 0 after it, and a minute passed. */
-    private static void blow(Feederlight net, int node) {
-        net.setLoad(node, 200);
-        net.minute();
-        net.setLoad(node, 0);
-        Check.due("isBlown(" + node + ") after 200 amperes over 100", net.isBlown(node), true);
-    }
-
     /** With an argument at both ends of its range, and just outside of them. */
     private static void range(Feederlight net, String call, java.util.function.IntFunction<Object> got, int least,
             int most) {
-        Check.refused(net, call + " with " + (least - 1), () -> got.apply(least - 1), ARGUMENT);
-        Check.refused(net, call + " with " + (most + 1), () -> got.apply(most + 1), ARGUMENT);
-        Check.refused(net, call + " with the least int", () -> got.apply(Integer.MIN_VALUE), ARGUMENT);
-        Check.refused(net, call + " with the greatest int", () -> got.apply(Integer.MAX_VALUE), ARGUMENT);
+        Check.refused(net, call + " with " + (least - 1), () -> got.apply(least - 1), Check.ARGUMENT);
+        Check.refused(net, call + " with " + (most + 1), () -> got.apply(most + 1), Check.ARGUMENT);
+        Check.refused(net, call + " with the least int", () -> got.apply(Integer.MIN_VALUE), Check.ARGUMENT);
+        Check.refused(net, call + " with the greatest int", () -> got.apply(Integer.MAX_VALUE), Check.ARGUMENT);
         for (int value : new int[] {least, most}) {
             Object answer = Check.answer(() -> got.apply(value));
             if (answer instanceof String) {
@@ -97,7 +64,7 @@ public final class PromiseTest {
 
     private static void noSuchNode(Feederlight net, String call, java.util.function.IntFunction<Object> got) {
         for (int node : new int[] {-1, net.nodes(), 12, Integer.MIN_VALUE, Integer.MAX_VALUE}) {
-            Check.refused(net, call + " with node " + node, () -> got.apply(node), INDEX);
+            Check.refused(net, call + " with node " + node, () -> got.apply(node), Check.INDEX);
         }
     }
 
@@ -118,9 +85,9 @@ public final class PromiseTest {
         Check.due("fedShare()", net.fedShare(), 1.0f);
         Check.due("meanVoltage()", net.meanVoltage(), 2300.0);
         Check.due("isSound()", net.isSound(), true);
-        Check.due("isClosed(0)", () -> net.isClosed(0), NONE.getName());
-        Check.due("turn(0)", () -> net.turn(0), NONE.getName());
-        Check.due("meanLeftOut()", net::meanLeftOut, ARITHMETIC.getName());
+        Check.due("isClosed(0)", () -> net.isClosed(0), Check.NONE.getName());
+        Check.due("turn(0)", () -> net.turn(0), Check.NONE.getName());
+        Check.due("meanLeftOut()", net::meanLeftOut, Check.ARITHMETIC.getName());
         Check.due("setBase(2300)", net.setBase(2300), 2300);
         Check.due("setSun(0)", net.setSun(0), 0);
         Check.due("setLoad(0, 0)", net.setLoad(0, 0), 0);
@@ -134,7 +101,7 @@ public final class PromiseTest {
     private static void promise2() {
         Feederlight net = new Feederlight();
         noSuchNode(net, "addNode", node -> net.addNode(node, 1, 1));
-        Check.refused(net, "addNode(1, 0, 0)", () -> net.addNode(1, 0, 0), INDEX);
+        Check.refused(net, "addNode(1, 0, 0)", () -> net.addNode(1, 0, 0), Check.INDEX);
         range(net, "addNode with a resistance", value -> net.addNode(0, value, 1), 1, 20);
         range(net, "addNode with a rating", value -> net.addNode(0, 1, value), 1, 400);
         Check.due("nodes() after four that were added", net.nodes(), 5);
@@ -145,13 +112,13 @@ public final class PromiseTest {
             Check.due("heat", net.heat(node), 0);
             Check.due("isBlown", net.isBlown(node), false);
         }
-        Check.refused(net, "addNode, the 13th", () -> net.addNode(0, 1, 1), STATE);
-        Check.refused(net, "addNode(12, 1, 1) when full", () -> net.addNode(12, 1, 1), INDEX);
-        Check.refused(net, "addNode(0, 21, 1) when full", () -> net.addNode(0, 21, 1), ARGUMENT);
-        Check.refused(net, "addNode(0, 1, 401) when full", () -> net.addNode(0, 1, 401), ARGUMENT);
+        Check.refused(net, "addNode, the 13th", () -> net.addNode(0, 1, 1), Check.STATE);
+        Check.refused(net, "addNode(12, 1, 1) when full", () -> net.addNode(12, 1, 1), Check.INDEX);
+        Check.refused(net, "addNode(0, 21, 1) when full", () -> net.addNode(0, 21, 1), Check.ARGUMENT);
+        Check.refused(net, "addNode(0, 1, 401) when full", () -> net.addNode(0, 1, 401), Check.ARGUMENT);
 
-        Feederlight cut = star(1);
-        blow(cut, 1);
+        Feederlight cut = Nets.star(1);
+        Nets.blow(cut, 1);
         Check.due("addNode behind a blown fuse", cut.addNode(1, 1, 1), 2);
         Check.due("isFed(2)", cut.isFed(2), false);
         Check.due("addNode beside it", cut.addNode(0, 1, 1), 3);
@@ -159,26 +126,26 @@ public final class PromiseTest {
     }
 
     private static void promise3() {
-        Feederlight net = star(2);
+        Feederlight net = Nets.star(2);
         noSuchNode(net, "addTie", node -> net.addTie(node, 0, 1));
         noSuchNode(net, "addTie, the other one", node -> net.addTie(0, node, 1));
-        Check.refused(net, "addTie(3, 3, 0)", () -> net.addTie(3, 3, 0), INDEX);
-        Check.refused(net, "addTie(0, 3, 0)", () -> net.addTie(0, 3, 0), INDEX);
-        Check.refused(net, "addTie(0, 0, 1)", () -> net.addTie(0, 0, 1), ARGUMENT);
-        Check.refused(net, "addTie(2, 2, 20)", () -> net.addTie(2, 2, 20), ARGUMENT);
+        Check.refused(net, "addTie(3, 3, 0)", () -> net.addTie(3, 3, 0), Check.INDEX);
+        Check.refused(net, "addTie(0, 3, 0)", () -> net.addTie(0, 3, 0), Check.INDEX);
+        Check.refused(net, "addTie(0, 0, 1)", () -> net.addTie(0, 0, 1), Check.ARGUMENT);
+        Check.refused(net, "addTie(2, 2, 20)", () -> net.addTie(2, 2, 20), Check.ARGUMENT);
         range(net, "addTie with a resistance", value -> net.addTie(1, 2, value), 1, 20);
         Check.due("addTie, the third", net.addTie(2, 1, 5), 2);
         Check.due("addTie, the fourth", net.addTie(0, 1, 5), 3);
-        Check.refused(net, "addTie, the fifth", () -> net.addTie(0, 1, 5), STATE);
-        Check.refused(net, "addTie(3, 0, 1) when full", () -> net.addTie(3, 0, 1), INDEX);
-        Check.refused(net, "addTie(1, 1, 1) when full", () -> net.addTie(1, 1, 1), ARGUMENT);
-        Check.refused(net, "addTie(1, 0, 21) when full", () -> net.addTie(1, 0, 21), ARGUMENT);
+        Check.refused(net, "addTie, the fifth", () -> net.addTie(0, 1, 5), Check.STATE);
+        Check.refused(net, "addTie(3, 0, 1) when full", () -> net.addTie(3, 0, 1), Check.INDEX);
+        Check.refused(net, "addTie(1, 1, 1) when full", () -> net.addTie(1, 1, 1), Check.ARGUMENT);
+        Check.refused(net, "addTie(1, 0, 21) when full", () -> net.addTie(1, 0, 21), Check.ARGUMENT);
         for (int tie = 0; tie < 4; tie++) {
             Check.due("isClosed of a tie between nodes that are fed", net.isClosed(tie), false);
         }
 
-        Feederlight cut = star(2);
-        blow(cut, 1);
+        Feederlight cut = Nets.star(2);
+        Nets.blow(cut, 1);
         Check.due("isFed(1)", cut.isFed(1), false);
         Check.due("addTie to what is cut off", cut.addTie(1, 2, 4), 0);
         Check.due("isFed(1)", cut.isFed(1), true);
@@ -189,7 +156,7 @@ public final class PromiseTest {
     }
 
     private static void promise4() {
-        Feederlight net = line(2);
+        Feederlight net = Nets.line(2);
         net.setLoad(2, 10);
         range(net, "setBase", net::setBase, 2000, 2600);
         Check.due("setBase(2000)", net.setBase(2000), 2600);
@@ -200,9 +167,9 @@ public final class PromiseTest {
     }
 
     private static void promise5() {
-        Feederlight net = line(2);
+        Feederlight net = Nets.line(2);
         noSuchNode(net, "setLoad", node -> net.setLoad(node, 1));
-        Check.refused(net, "setLoad(3, 201)", () -> net.setLoad(3, 201), INDEX);
+        Check.refused(net, "setLoad(3, 201)", () -> net.setLoad(3, 201), Check.INDEX);
         range(net, "setLoad", value -> net.setLoad(2, value), 0, 200);
         Check.due("setLoad(2, 17)", net.setLoad(2, 17), 200);
         Check.due("setLoad(1, 5)", net.setLoad(1, 5), 0);
@@ -214,9 +181,9 @@ public final class PromiseTest {
     }
 
     private static void promise6() {
-        Feederlight net = star(1);
+        Feederlight net = Nets.star(1);
         noSuchNode(net, "setCharger", node -> net.setCharger(node, 1));
-        Check.refused(net, "setCharger(2, 65)", () -> net.setCharger(2, 65), INDEX);
+        Check.refused(net, "setCharger(2, 65)", () -> net.setCharger(2, 65), Check.INDEX);
         range(net, "setCharger", value -> net.setCharger(1, value), 0, 64);
         Check.due("isServed(1) before a minute", net.isServed(1), false);
         Check.due("minute()", net.minute(), 1);
@@ -232,7 +199,7 @@ public final class PromiseTest {
         Check.due("leftOut(1)", net.leftOut(1), 1);
         Check.due("turn(0)", net.turn(0), 1);
 
-        Feederlight two = star(2);
+        Feederlight two = Nets.star(2);
         two.setCharger(1, 10);
         two.setCharger(2, 10);
         two.minute();
@@ -242,7 +209,7 @@ public final class PromiseTest {
     }
 
     private static void promise7() {
-        Feederlight net = star(1);
+        Feederlight net = Nets.star(1);
         net.setRoof(1, 50);
         range(net, "setSun", net::setSun, 0, 100);
         Check.due("flow(1)", net.flow(1), -50);
@@ -253,9 +220,9 @@ public final class PromiseTest {
     }
 
     private static void promise8() {
-        Feederlight net = star(2);
+        Feederlight net = Nets.star(2);
         noSuchNode(net, "setRoof", node -> net.setRoof(node, 1));
-        Check.refused(net, "setRoof(3, 201)", () -> net.setRoof(3, 201), INDEX);
+        Check.refused(net, "setRoof(3, 201)", () -> net.setRoof(3, 201), Check.INDEX);
         range(net, "setRoof", value -> net.setRoof(1, value), 0, 200);
         Check.due("roofAt(1, 100)", net.roofAt(1, 100), 200);
         Check.due("roofAt(2, 100)", net.roofAt(2, 100), 0);
@@ -275,10 +242,10 @@ public final class PromiseTest {
     }
 
     private static void promise9() {
-        Feederlight net = star(2);
+        Feederlight net = Nets.star(2);
         net.setRoof(1, 100);
         noSuchNode(net, "capRoof", node -> net.capRoof(node, 1));
-        Check.refused(net, "capRoof(3, 201)", () -> net.capRoof(3, 201), INDEX);
+        Check.refused(net, "capRoof(3, 201)", () -> net.capRoof(3, 201), Check.INDEX);
         Check.due("capRoof(1, 60)", net.capRoof(1, 60), 2);
         Check.due("roofAt(1, 59)", net.roofAt(1, 59), 59);
         Check.due("roofAt(1, 60)", net.roofAt(1, 60), 60);
@@ -287,9 +254,9 @@ public final class PromiseTest {
         Check.due("roofAt(1, 100) under the lower cap", net.roofAt(1, 100), 60);
         range(net, "capRoof", value -> net.capRoof(1, value), 0, 200);
         Check.due("roofAt(1, 100) under a cap of 0", net.roofAt(1, 100), 0);
-        Check.refused(net, "capRoof(1, 1), the fifth", () -> net.capRoof(1, 1), STATE);
-        Check.refused(net, "capRoof(1, 201), the fifth", () -> net.capRoof(1, 201), ARGUMENT);
-        Check.refused(net, "capRoof(1, -1), the fifth", () -> net.capRoof(1, -1), ARGUMENT);
+        Check.refused(net, "capRoof(1, 1), the fifth", () -> net.capRoof(1, 1), Check.STATE);
+        Check.refused(net, "capRoof(1, 201), the fifth", () -> net.capRoof(1, 201), Check.ARGUMENT);
+        Check.refused(net, "capRoof(1, -1), the fifth", () -> net.capRoof(1, -1), Check.ARGUMENT);
         Check.due("capRoof(2, 5), another roof", net.capRoof(2, 5), 2);
         Check.due("setRoof(1, 10)", net.setRoof(1, 10), 5);
         Check.due("capRoof(1, 5)", net.capRoof(1, 5), 2);
@@ -297,10 +264,10 @@ public final class PromiseTest {
     }
 
     private static void promise10() {
-        Feederlight net = star(2);
+        Feederlight net = Nets.star(2);
         net.setRoof(1, 100);
         noSuchNode(net, "shadeRoof", node -> net.shadeRoof(node, 1));
-        Check.refused(net, "shadeRoof(3, 101)", () -> net.shadeRoof(3, 101), INDEX);
+        Check.refused(net, "shadeRoof(3, 101)", () -> net.shadeRoof(3, 101), Check.INDEX);
         Check.due("shadeRoof(1, 30)", net.shadeRoof(1, 30), 2);
         Check.due("roofAt(1, 29)", net.roofAt(1, 29), 0);
         Check.due("roofAt(1, 30)", net.roofAt(1, 30), 0);
@@ -312,10 +279,10 @@ public final class PromiseTest {
         Check.due("roofAt(1, 39)", net.roofAt(1, 39), 0);
         range(net, "shadeRoof", value -> net.shadeRoof(1, value), 0, 100);
         Check.due("roofAt(1, 100)", net.roofAt(1, 100), 0);
-        Check.refused(net, "shadeRoof(1, 1), the fifth", () -> net.shadeRoof(1, 1), STATE);
-        Check.refused(net, "shadeRoof(1, 101), the fifth", () -> net.shadeRoof(1, 101), ARGUMENT);
+        Check.refused(net, "shadeRoof(1, 1), the fifth", () -> net.shadeRoof(1, 1), Check.STATE);
+        Check.refused(net, "shadeRoof(1, 101), the fifth", () -> net.shadeRoof(1, 101), Check.ARGUMENT);
 
-        Feederlight mixed = star(1);
+        Feederlight mixed = Nets.star(1);
         mixed.setRoof(1, 200);
         mixed.shadeRoof(1, 20);
         mixed.capRoof(1, 90);
@@ -326,16 +293,16 @@ public final class PromiseTest {
         Check.due("roofAt(1, 74)", mixed.roofAt(1, 74), 88);
         Check.due("roofAt(1, 75)", mixed.roofAt(1, 75), 90);
         Check.due("roofAt(1, 100)", mixed.roofAt(1, 100), 90);
-        Check.refused(mixed, "shadeRoof(1, 0), the fifth", () -> mixed.shadeRoof(1, 0), STATE);
-        Check.refused(mixed, "capRoof(1, 0), the fifth", () -> mixed.capRoof(1, 0), STATE);
+        Check.refused(mixed, "shadeRoof(1, 0), the fifth", () -> mixed.shadeRoof(1, 0), Check.STATE);
+        Check.refused(mixed, "capRoof(1, 0), the fifth", () -> mixed.capRoof(1, 0), Check.STATE);
     }
 
     private static void promise11() {
-        Feederlight net = star(1);
+        Feederlight net = Nets.star(1);
         net.setRoof(1, 80);
         net.setSun(50);
         noSuchNode(net, "roofAt", node -> net.roofAt(node, 1));
-        Check.refused(net, "roofAt(2, 101)", () -> net.roofAt(2, 101), INDEX);
+        Check.refused(net, "roofAt(2, 101)", () -> net.roofAt(2, 101), Check.INDEX);
         range(net, "roofAt", value -> net.roofAt(1, value), 0, 100);
         Check.due("roofAt(1, 25)", net.roofAt(1, 25), 20);
         Check.due("roofAt(1, 100)", net.roofAt(1, 100), 80);
@@ -381,7 +348,7 @@ public final class PromiseTest {
     }
 
     private static void promise12Zero() {
-        Feederlight net = star(2);
+        Feederlight net = Nets.star(2);
         net.setCharger(1, 0);
         Check.due("minute()", net.minute(), 0);
         Check.due("leftOut(1)", net.leftOut(1), 0);
@@ -402,8 +369,8 @@ public final class PromiseTest {
     }
 
     private static void promise12CutOff() {
-        Feederlight net = star(2);
-        blow(net, 1);
+        Feederlight net = Nets.star(2);
+        Nets.blow(net, 1);
         net.setCharger(1, 10);
         net.setCharger(2, 10);
         Check.due("turn(0)", net.turn(0), 1);
@@ -450,7 +417,7 @@ public final class PromiseTest {
         net.minute();
         Check.due("heat(1), blown", net.heat(1), 100);
 
-        Feederlight both = line(2);
+        Feederlight both = Nets.line(2);
         both.setLoad(2, 200);
         both.minute();
         Check.due("isBlown(1), both at once", both.isBlown(1), true);
@@ -470,7 +437,7 @@ public final class PromiseTest {
     }
 
     private static void promise13() {
-        Feederlight net = star(2);
+        Feederlight net = Nets.star(2);
         range(net, "pass", net::pass, 1, 100);
         Check.due("minutes()", net.minutes(), 101);
         net.setLoad(1, 150);
@@ -488,7 +455,7 @@ public final class PromiseTest {
         Check.due("pass(100), both", net.pass(100), 2);
         Check.due("minutes()", net.minutes(), 223);
 
-        Feederlight chargers = star(2);
+        Feederlight chargers = Nets.star(2);
         chargers.setCharger(1, 64);
         chargers.setCharger(2, 7);
         Check.due("pass(3)", chargers.pass(3), 0);
@@ -496,13 +463,13 @@ public final class PromiseTest {
     }
 
     private static void promise14() {
-        Feederlight net = line(3);
+        Feederlight net = Nets.line(3);
         noSuchNode(net, "replaceFuse", net::replaceFuse);
-        Check.refused(net, "replaceFuse(0)", () -> net.replaceFuse(0), STATE);
-        Check.refused(net, "replaceFuse(1), whole", () -> net.replaceFuse(1), STATE);
+        Check.refused(net, "replaceFuse(0)", () -> net.replaceFuse(0), Check.STATE);
+        Check.refused(net, "replaceFuse(1), whole", () -> net.replaceFuse(1), Check.STATE);
         net.setLoad(3, 150);
         net.minute();
-        Check.refused(net, "replaceFuse(1), whole with heat", () -> net.replaceFuse(1), STATE);
+        Check.refused(net, "replaceFuse(1), whole with heat", () -> net.replaceFuse(1), Check.STATE);
         Check.due("heat(1)", net.heat(1), 50);
         net.minute();
         net.setLoad(3, 0);
@@ -514,7 +481,7 @@ public final class PromiseTest {
         Check.due("isFed(2)", net.isFed(2), true);
         Check.due("isFed(3)", net.isFed(3), false);
         Check.due("replaceFuse(3)", net.replaceFuse(3), 4);
-        Check.refused(net, "replaceFuse(3), once more", () -> net.replaceFuse(3), STATE);
+        Check.refused(net, "replaceFuse(3), once more", () -> net.replaceFuse(3), Check.STATE);
         net.setLoad(1, 120);
         net.minute();
         Check.due("heat(1), from 0 on", net.heat(1), 20);
@@ -527,14 +494,14 @@ public final class PromiseTest {
             net.addNode(node / 2, 1, 100);
         }
         Check.due("nodes()", net.nodes(), 12);
-        blow(net, 11);
+        Nets.blow(net, 11);
         Check.due("nodes(), with one cut off", net.nodes(), 12);
     }
 
     private static void promise16() {
-        Feederlight net = line(4);
+        Feederlight net = Nets.line(4);
         noSuchNode(net, "isFed", net::isFed);
-        blow(net, 4);
+        Nets.blow(net, 4);
         Check.due("isFed(0)", net.isFed(0), true);
         Check.due("isFed(1), its fuse blew too", net.isFed(1), false);
         Check.due("isFed(4)", net.isFed(4), false);
@@ -547,9 +514,9 @@ public final class PromiseTest {
     }
 
     private static void promise17() {
-        Feederlight net = line(3);
+        Feederlight net = Nets.line(3);
         noSuchNode(net, "feeder", net::feeder);
-        Check.refused(net, "feeder(0)", () -> net.feeder(0), NONE);
+        Check.refused(net, "feeder(0)", () -> net.feeder(0), Check.NONE);
         Check.due("feeder(1)", net.feeder(1), 0);
         Check.due("feeder(3)", net.feeder(3), 2);
         net.setLoad(1, 200);
@@ -557,7 +524,7 @@ public final class PromiseTest {
         net.setLoad(1, 0);
         for (int node = 1; node <= 3; node++) {
             int cutOff = node;
-            Check.refused(net, "feeder of what is cut off", () -> net.feeder(cutOff), NONE);
+            Check.refused(net, "feeder of what is cut off", () -> net.feeder(cutOff), Check.NONE);
         }
         net.addTie(3, 0, 1);
         Check.due("feeder(3) by the tie", net.feeder(3), 0);
@@ -569,15 +536,15 @@ public final class PromiseTest {
     }
 
     private static void promise18() {
-        Feederlight net = star(3);
+        Feederlight net = Nets.star(3);
         for (int tie : new int[] {-1, 0, 4, Integer.MAX_VALUE, Integer.MIN_VALUE}) {
-            Check.refused(net, "isClosed(" + tie + ")", () -> net.isClosed(tie), NONE);
+            Check.refused(net, "isClosed(" + tie + ")", () -> net.isClosed(tie), Check.NONE);
         }
         net.addTie(1, 2, 1);
         net.addTie(3, 1, 1);
         net.addTie(2, 3, 1);
-        Check.refused(net, "isClosed(3)", () -> net.isClosed(3), NONE);
-        blow(net, 1);
+        Check.refused(net, "isClosed(3)", () -> net.isClosed(3), Check.NONE);
+        Nets.blow(net, 1);
         Check.due("isClosed(0), the lowest", net.isClosed(0), true);
         Check.due("isClosed(1)", net.isClosed(1), false);
         Check.due("isClosed(2)", net.isClosed(2), false);
@@ -602,7 +569,7 @@ public final class PromiseTest {
 
     /** A tie with a higher number closes first where a lower one has nothing fed at either end yet. */
     private static void promise18Chain() {
-        Feederlight net = star(4);
+        Feederlight net = Nets.star(4);
         net.addTie(4, 3, 2);
         net.addTie(3, 2, 2);
         net.addTie(2, 1, 2);
@@ -623,9 +590,9 @@ public final class PromiseTest {
     }
 
     private static void promise19() {
-        Feederlight net = line(3);
+        Feederlight net = Nets.line(3);
         noSuchNode(net, "flow", net::flow);
-        Check.refused(net, "flow(0)", () -> net.flow(0), NONE);
+        Check.refused(net, "flow(0)", () -> net.flow(0), Check.NONE);
         net.addNode(1, 10, 100);
         net.setLoad(1, 1);
         net.setLoad(2, 2);
@@ -648,7 +615,7 @@ public final class PromiseTest {
         net.setLoad(4, 200);
         net.minute();
         Check.due("isBlown(4)", net.isBlown(4), true);
-        Check.refused(net, "flow(4), cut off", () -> net.flow(4), NONE);
+        Check.refused(net, "flow(4), cut off", () -> net.flow(4), Check.NONE);
         Check.due("flow(1), without what is cut off", net.flow(1), -13);
     }
 
@@ -680,7 +647,7 @@ public final class PromiseTest {
         Check.due("voltage(1), 200 over its child's cable", of.tell(net, 1), 1940);
         net.pass(1);
         Check.due("isBlown(2)", net.isBlown(2), true);
-        Check.refused(net, "voltage(1), cut off", () -> of.tell(net, 1), NONE);
+        Check.refused(net, "voltage(1), cut off", () -> of.tell(net, 1), Check.NONE);
         Check.due("voltage(2)", of.tell(net, 2), 2300);
     }
 
@@ -697,7 +664,7 @@ public final class PromiseTest {
     }
 
     private static void promise22() {
-        Feederlight net = star(3);
+        Feederlight net = Nets.star(3);
         Check.due("lowest(), all the same", net.lowest(), 0);
         net.setLoad(1, 1);
         Check.due("lowest()", net.lowest(), 1);
@@ -708,7 +675,7 @@ public final class PromiseTest {
         Check.due("lowest(), of two", net.lowest(), 2);
         net.setLoad(3, 11);
         Check.due("lowest()", net.lowest(), 3);
-        blow(net, 3);
+        Nets.blow(net, 3);
         net.setLoad(3, 200);
         Check.due("lowest(), the other one is cut off", net.lowest(), 2);
         net.setLoad(2, 0);
@@ -717,7 +684,7 @@ public final class PromiseTest {
         net.setSun(100);
         Check.due("lowest(), the roofs push", net.lowest(), 0);
 
-        Feederlight cut = star(2);
+        Feederlight cut = Nets.star(2);
         cut.setLoad(1, 150);
         cut.minute();
         cut.minute();
@@ -772,7 +739,7 @@ public final class PromiseTest {
         net.setCharger(1, 64);
         Check.due("keepsLimits(), not served", net.keepsLimits(), true);
 
-        Feederlight up = line(2);
+        Feederlight up = Nets.line(2);
         up.addTie(0, 2, 1);
         up.setLoad(1, 200);
         up.minute();
@@ -786,7 +753,7 @@ public final class PromiseTest {
     }
 
     private static void promise24() {
-        Feederlight net = star(2);
+        Feederlight net = Nets.star(2);
         noSuchNode(net, "isServed", net::isServed);
         net.setCharger(0, 10);
         net.setCharger(1, 10);
@@ -815,7 +782,7 @@ public final class PromiseTest {
     }
 
     private static void promise25() {
-        Feederlight net = star(2);
+        Feederlight net = Nets.star(2);
         noSuchNode(net, "leftOut", net::leftOut);
         net.setCharger(1, 10);
         net.setCharger(2, 10);
@@ -836,9 +803,9 @@ public final class PromiseTest {
     }
 
     private static void promise26() {
-        Feederlight net = star(4);
+        Feederlight net = Nets.star(4);
         for (int place : new int[] {-1, 0, Integer.MAX_VALUE, Integer.MIN_VALUE}) {
-            Check.refused(net, "turn(" + place + ")", () -> net.turn(place), NONE);
+            Check.refused(net, "turn(" + place + ")", () -> net.turn(place), Check.NONE);
         }
         for (int node = 4; node >= 1; node--) {
             net.setCharger(node, 60);
@@ -846,7 +813,7 @@ public final class PromiseTest {
         for (int place = 0; place < 4; place++) {
             Check.due("turn(" + place + ")", net.turn(place), place + 1);
         }
-        Check.refused(net, "turn(4)", () -> net.turn(4), NONE);
+        Check.refused(net, "turn(4)", () -> net.turn(4), Check.NONE);
         net.setLoad(3, 100);
         net.pass(2);
         net.setLoad(2, 100);
@@ -854,7 +821,7 @@ public final class PromiseTest {
         order(net, 3, 2, 1, 4);
         net.setCharger(3, 0);
         order(net, 2, 1, 4);
-        Check.refused(net, "turn(3)", () -> net.turn(3), NONE);
+        Check.refused(net, "turn(3)", () -> net.turn(3), Check.NONE);
         net.setCharger(3, 1);
         order(net, 3, 2, 1, 4);
         net.setCharger(0, 1);
@@ -884,7 +851,7 @@ public final class PromiseTest {
         Feederlight net = new Feederlight();
         Check.due("most", most(net, fromLarger), 0);
         net.setBase(2069);
-        Check.refused(net, "most, not even with none", () -> most(net, fromLarger), NONE);
+        Check.refused(net, "most, not even with none", () -> most(net, fromLarger), Check.NONE);
         net.setBase(2300);
         net.addNode(0, 1, 100);
         int[] amperes = {40, 50, 60, 64};
@@ -906,9 +873,9 @@ public final class PromiseTest {
         net.setLoad(1, 61);
         Check.due("most, 39 left", most(net, fromLarger), 0);
         net.setLoad(1, 101);
-        Check.refused(net, "most, not even with none", () -> most(net, fromLarger), NONE);
+        Check.refused(net, "most, not even with none", () -> most(net, fromLarger), Check.NONE);
         net.setLoad(1, 0);
-        blow(net, 2);
+        Nets.blow(net, 2);
         Check.due("replaceFuse(1)", net.replaceFuse(1), 5);
         Check.due("most of 50, 60, 64 over 100, 40 is cut off", most(net, fromLarger), 1);
         net.setLoad(2, 200);
@@ -933,7 +900,7 @@ public final class PromiseTest {
         net.setRoof(1, 200);
         Check.due("most, 180 to 220 in all", most(net, fromLarger), 4);
         net.setCharger(5, 0);
-        Check.refused(net, "most, 150 at most", () -> most(net, fromLarger), NONE);
+        Check.refused(net, "most, 150 at most", () -> most(net, fromLarger), Check.NONE);
     }
 
     private static void mostByVoltage(boolean fromLarger) {
@@ -957,9 +924,9 @@ public final class PromiseTest {
     }
 
     private static void promise29() {
-        Feederlight net = star(1);
+        Feederlight net = Nets.star(1);
         noSuchNode(net, "heat", net::heat);
-        Check.refused(net, "heat(0)", () -> net.heat(0), NONE);
+        Check.refused(net, "heat(0)", () -> net.heat(0), Check.NONE);
         Check.due("heat(1)", net.heat(1), 0);
         net.setLoad(1, 130);
         net.pass(3);
@@ -977,9 +944,9 @@ public final class PromiseTest {
     }
 
     private static void promise30() {
-        Feederlight net = line(2);
+        Feederlight net = Nets.line(2);
         noSuchNode(net, "isBlown", net::isBlown);
-        Check.refused(net, "isBlown(0)", () -> net.isBlown(0), NONE);
+        Check.refused(net, "isBlown(0)", () -> net.isBlown(0), Check.NONE);
         Check.due("isBlown(1)", net.isBlown(1), false);
         net.setLoad(1, 199);
         net.minute();
@@ -992,17 +959,17 @@ public final class PromiseTest {
     }
 
     private static void promise31() {
-        Feederlight net = star(1);
+        Feederlight net = Nets.star(1);
         net.minute();
         Check.due("minutes()", net.minutes(), 1);
         net.pass(100);
         Check.due("minutes()", net.minutes(), 101);
-        Check.refused(net, "pass(101)", () -> net.pass(101), ARGUMENT);
+        Check.refused(net, "pass(101)", () -> net.pass(101), Check.ARGUMENT);
         Check.due("minutes()", net.minutes(), 101);
     }
 
     private static void promise32() {
-        Feederlight net = star(2);
+        Feederlight net = Nets.star(2);
         net.setCharger(1, 64);
         net.setCharger(2, 20);
         net.setLoad(2, 81);
@@ -1023,9 +990,9 @@ public final class PromiseTest {
     }
 
     private static void promise33() {
-        Feederlight net = line(2);
+        Feederlight net = Nets.line(2);
         Check.due("fedShare()", net.fedShare(), 1.0f);
-        blow(net, 2);
+        Nets.blow(net, 2);
         Check.due("fedShare()", net.fedShare(), 1.0f / 3.0f);
         net.replaceFuse(1);
         Check.due("fedShare()", net.fedShare(), 2.0f / 3.0f);
@@ -1038,21 +1005,21 @@ public final class PromiseTest {
     }
 
     private static void promise34() {
-        Feederlight net = star(2);
+        Feederlight net = Nets.star(2);
         Check.due("meanVoltage()", net.meanVoltage(), 2300.0);
         net.setLoad(1, 7);
         Check.due("meanVoltage()", net.meanVoltage(), 6893.0 / 3.0);
         net.setBase(2100);
         Check.due("meanVoltage()", net.meanVoltage(), 6293.0 / 3.0);
-        blow(net, 1);
+        Nets.blow(net, 1);
         net.setLoad(2, 5);
         net.setLoad(1, 200);
         Check.due("meanVoltage(), of those that are fed", net.meanVoltage(), 2097.5);
     }
 
     private static void promise35() {
-        Feederlight net = star(3);
-        Check.refused(net, "meanLeftOut()", net::meanLeftOut, ARITHMETIC);
+        Feederlight net = Nets.star(3);
+        Check.refused(net, "meanLeftOut()", net::meanLeftOut, Check.ARITHMETIC);
         net.setCharger(1, 10);
         Check.due("meanLeftOut()", net.meanLeftOut(), 0.0);
         net.setCharger(2, 10);
@@ -1065,8 +1032,8 @@ public final class PromiseTest {
         Check.due("meanLeftOut(), without those of 0", net.meanLeftOut(), 0.0);
         net.setCharger(1, 0);
         net.setCharger(0, 0);
-        Check.refused(net, "meanLeftOut()", net::meanLeftOut, ARITHMETIC);
-        blow(net, 3);
+        Check.refused(net, "meanLeftOut()", net::meanLeftOut, Check.ARITHMETIC);
+        Nets.blow(net, 3);
         net.setCharger(3, 10);
         net.pass(4);
         net.setCharger(1, 1);
@@ -1074,7 +1041,7 @@ public final class PromiseTest {
     }
 
     private static void promise36() {
-        Feederlight net = line(3);
+        Feederlight net = Nets.line(3);
         Check.due("isSound()", net.isSound(), true);
         net.addTie(0, 3, 4);
         net.setCharger(2, 30);
