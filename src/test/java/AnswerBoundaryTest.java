@@ -386,15 +386,13 @@ public final class AnswerBoundaryTest {
             net.setLoad(3, 101);
             Check.due("keepsLimits(), 101 over the cable behind it", net.keepsLimits(), false);
         });
-        Check.part("promise 23, a cable that feeds the parent carries the flow of the parent", () -> {
-            Feederlight net = Nets.line(2);
-            net.addTie(0, 2, 1);
-            Nets.blow(net, 1);
-            net.setLoad(1, 100);
+        Check.part("promise 23, a cable that feeds the parent carries the parent's flow, by its own rating", () -> {
+            Feederlight net = Nets.fedByItsChild();
+            net.setLoad(1, 50);
             net.setLoad(2, 200);
-            Check.due("keepsLimits()", net.keepsLimits(), true);
-            net.setLoad(1, 101);
-            Check.due("keepsLimits()", net.keepsLimits(), false);
+            Check.due("keepsLimits(), 50", net.keepsLimits(), true);
+            net.setLoad(1, 51);
+            Check.due("keepsLimits(), 51", net.keepsLimits(), false);
         });
         Check.part("promise 23, a charger that is not served carries nothing", () -> {
             Feederlight net = Nets.line(1);

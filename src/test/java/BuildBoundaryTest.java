@@ -1,6 +1,7 @@
 /** The edges of promises 1 to 3: what there is at first, and what a new node or tie may be; each is a test. */
 public final class BuildBoundaryTest {
     public static void main(String[] args) {
+        startingNets();
         newNet();
         newNetOfNothing();
         refusedNodes();
@@ -14,6 +15,28 @@ public final class BuildBoundaryTest {
         tiesThatAreAllowed();
         newTies();
         Check.end();
+    }
+
+    private static void startingNets() {
+        Check.part("the busy net has something of everything", () -> {
+            Feederlight net = Nets.busy();
+            Check.due("nodes()", net.nodes(), 6);
+            Check.due("isServed(0)", net.isServed(0), true);
+            Check.due("isServed(3)", net.isServed(3), false);
+            Check.due("leftOut(3) is more than 0", net.leftOut(3) > 0, true);
+            Check.due("isBlown(5)", net.isBlown(5), true);
+            Check.due("isClosed(0)", net.isClosed(0), true);
+            Check.due("isClosed(1)", net.isClosed(1), false);
+            Check.due("isBlown(4)", net.isBlown(4), false);
+            Check.due("heat(4) is more than 0", net.heat(4) > 0, true);
+            Check.due("setRoof(2, 0)", net.setRoof(2, 0), 3);
+        });
+        Check.part("the full net has no room", () -> {
+            Feederlight net = Nets.full();
+            Check.due("nodes()", net.nodes(), 12);
+            Check.due("isClosed(3)", net.isClosed(3), false);
+            Check.due("setRoof(1, 0)", net.setRoof(1, 0), 5);
+        });
     }
 
     private static void newNet() {

@@ -324,15 +324,19 @@ public final class MinuteBoundaryTest {
             Check.due("heat(2), fed again", net.heat(2), 25);
         });
         Check.part("promise 12, a cable from the child to the parent heats by the flow of the parent", () -> {
-            Feederlight net = Nets.line(2);
-            net.addTie(0, 2, 1);
-            Nets.blow(net, 1);
-            Check.due("feeder(1)", net.feeder(1), 2);
-            net.setLoad(1, 103);
+            Feederlight net = Nets.fedByItsChild();
+            net.setLoad(1, 53);
             net.setLoad(2, 200);
             net.minute();
-            Check.due("heat(2), not by 303", net.heat(2), 3);
+            Check.due("heat(2), not by 253", net.heat(2), 3);
             Check.due("heat(1), fed, but not over its cable", net.heat(1), 100);
+        });
+        Check.part("promise 12, a charger at a parent is served by the rating of its child's cable", () -> {
+            Feederlight net = Nets.fedByItsChild();
+            net.setCharger(1, 51);
+            Check.due("minute(), 51", net.minute(), 0);
+            net.setCharger(1, 50);
+            Check.due("minute(), 50", net.minute(), 1);
         });
         Check.part("promise 12, a tie has no fuse and carries any current", () -> {
             Feederlight net = Nets.cutOff();

@@ -47,6 +47,10 @@ final class Model {
         nodes.get(0).fed = true;
     }
 
+    int nodes() {
+        return nodes.size();
+    }
+
     private Node node(int number) {
         if (number < 0 || number >= nodes.size()) {
             throw new IndexOutOfBoundsException();
@@ -106,7 +110,7 @@ final class Model {
             case "minute": letPass(); return lastServed().size();
             case "pass": return pass(a);
             case "replaceFuse": return replaceFuse(a);
-            case "nodes": return nodes.size();
+            case "nodes": return nodes();
             case "isFed": return node(a).fed;
             case "feeder": return nodeWithFeeder(a).feeder.number;
             case "isClosed":

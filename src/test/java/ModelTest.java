@@ -4,12 +4,15 @@ import java.util.Random;
 
 /** Long runs of calls, the same ones each time, that the class and the model answer alike. */
 public final class ModelTest {
-    private static final int RUNS = 400;
+    private static final int RUNS = 600;
     private static final int CALLS = 512;
-    private static final String[] ASKS = {
-        "roofAt", "nodes", "isFed", "feeder", "isClosed", "flow", "voltage", "voltageByWay", "lowest", "keepsLimits",
-        "isServed", "leftOut", "turn", "mostServed", "mostByAll", "heat", "isBlown", "minutes", "charged", "fedShare",
-        "meanVoltage", "meanLeftOut", "isSound"};
+    private static final String[] ASKS_OF_ONE = {
+        "roofAt", "isFed", "feeder", "isClosed", "flow", "voltage", "voltageByWay", "isServed", "leftOut", "turn",
+        "heat", "isBlown"};
+    private static final String[] ASKS_OF_ALL = {
+        "nodes", "lowest", "keepsLimits", "mostServed", "mostByAll", "minutes", "charged", "fedShare", "meanVoltage",
+        "meanLeftOut", "isSound"};
+    private static final int CALLS_AT_THE_END = ASKS_OF_ALL.length + 14 * ASKS_OF_ONE.length;
     private static final String[] CHANGES = {
         "setLoad", "setLoad", "setLoad", "setCharger", "setCharger", "setCharger", "setRoof", "capRoof", "shadeRoof",
         "setSun", "setBase", "minute", "minute", "minute", "minute", "pass", "pass", "replaceFuse", "replaceFuse",
@@ -19,6 +22,7 @@ public final class ModelTest {
     private final Feederlight net = new Feederlight();
     private final Model model = new Model();
     private final List<String> told = new ArrayList<>();
+    private final int callsInPlay;
     private final int mostLoad;
     private final int mostCharge;
     private final int leastRating;
@@ -27,6 +31,7 @@ public final class ModelTest {
 
     private ModelTest(int seed) {
         random = new Random(seed);
+        callsInPlay = seed % 2 == 0 ? CALLS : CALLS - CALLS_AT_THE_END;
         mostLoad = new int[] {10, 40, 200}[random.nextInt(3)];
         mostCharge = new int[] {8, 64}[random.nextInt(2)];
         leastRating = new int[] {1, 20, 60}[random.nextInt(3)];
@@ -42,26 +47,32 @@ public final class ModelTest {
         Check.end();
     }
 
+    /** 512 calls, as what comes after them is free; in every second run the last ones ask for everything. */
     private void play() {
         int nodes = random.nextInt(12);
         int ties = random.nextInt(5);
-        int calls = 0;
         for (int node = 1; node <= nodes; node++) {
             addNode(node);
-            calls++;
         }
         for (int tie = 0; tie < ties; tie++) {
             both("addTie", random.nextInt(nodes + 1), random.nextInt(nodes + 1), 1 + random.nextInt(20));
-            calls++;
         }
-        for (; calls < CALLS; calls++) {
+        while (told.size() < callsInPlay) {
             if (random.nextInt(3) == 0) {
                 change();
             } else {
-                both(ASKS[random.nextInt(ASKS.length)], anyNode(), around(0, 100), 0);
+                ask();
             }
         }
-        everything();
+        if (callsInPlay < CALLS) {
+            askEverything();
+        }
+    }
+
+    private void ask() {
+        int at = random.nextInt(ASKS_OF_ONE.length + ASKS_OF_ALL.length);
+        String call = at < ASKS_OF_ONE.length ? ASKS_OF_ONE[at] : ASKS_OF_ALL[at - ASKS_OF_ONE.length];
+        both(call, anyNode(), around(0, 100), 0);
     }
 
     private void addNode(int nodes) {
@@ -88,7 +99,7 @@ public final class ModelTest {
 
     /** Mostly a node that there is; now and then one that there is not. */
     private int anyNode() {
-        return random.nextInt(25) == 0 ? random.nextInt(16) - 2 : random.nextInt(net.nodes());
+        return random.nextInt(25) == 0 ? random.nextInt(16) - 2 : random.nextInt(model.nodes());
     }
 
     /** Mostly within the range; now and then at an end of it, or just outside. */
@@ -112,8 +123,11 @@ public final class ModelTest {
         }
     }
 
-    private void everything() {
-        for (String call : ASKS) {
+    private void askEverything() {
+        for (String call : ASKS_OF_ALL) {
+            both(call, 0, 0, 0);
+        }
+        for (String call : ASKS_OF_ONE) {
             for (int node = -1; node <= 12; node++) {
                 both(call, node, 100, 0);
             }

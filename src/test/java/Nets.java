@@ -40,6 +40,20 @@ final class Nets {
     }
 
     /**
+     * Node 1, whose fuse with a rating of 100 is blown, is fed by its child 2 over a cable with a rating of 50, and
+     * that one over tie 0 from node 0; a minute passed.
+     */
+    static Feederlight fedByItsChild() {
+        Feederlight net = new Feederlight();
+        net.addNode(0, 10, 100);
+        net.addNode(1, 10, 50);
+        net.addTie(0, 2, 1);
+        blow(net, 1);
+        Check.due("feeder(1)", net.feeder(1), 2);
+        return net;
+    }
+
+    /**
      * 6 nodes and 2 ties, with something of everything: the roof of node 2 has 3 layers, the fuse of node 5 is blown,
      * tie 0 is closed, and the fuse of node 4 is warm; of five chargers some are served and some have been left out.
      */
